@@ -773,6 +773,15 @@ public final class BallBook {
             return over >= 0 && over < overs.size() ? overs.get(over) : null;
         }
 
+        /** How many bytes of an image its first overs take. */
+        int imageSize(int first) {
+            int size = 0;
+            for (int o = 0; o < first && o < overs.size(); o++) {
+                size += 2 + Math.max(overs.get(o).size, 0);
+            }
+            return size;
+        }
+
         void addOver(Over over) {
             overs.add(over);
         }
@@ -865,27 +874,19 @@ public final class BallBook {
         /** The place in the image of a turn's number of overs, of an over's bowler (no entry), or of an entry. */
         int placeOf(int turn, int over, int entry) {
             int place = IMAGE_HEAD;
-            for (int t = 0; t < turn && t < turnCount(); t++) {
-                place += 1 + sizeOfOvers(t, overCountOf(t)) + 2;
+            for (int t = 0; t < turn && t < turns.size(); t++) {
+                place += 1 + turns.get(t).imageSize(turns.get(t).overCount()) + 2;
             }
-            if (over < 0) {
+            Turn row = turnAt(turn);
+            if (row == null || over < 0) {
                 return place;
             }
-            place += 1 + sizeOfOvers(turn, over);
+            place += 1 + row.imageSize(over);
             return entry < 0 ? place : place + 2 + entry;
         }
 
         int imageSize() {
             return placeOf(turnCount(), NONE, NONE);
-        }
-
-        private int sizeOfOvers(int turn, int overs) {
-            int size = 0;
-            for (int o = 0; o < overs && o < overCountOf(turn); o++) {
-                Over over = overAt(turn, o);
-                size += 2 + (over == null ? 0 : Math.max(over.size, 0));
-            }
-            return size;
         }
     }
 

@@ -7,6 +7,13 @@ import java.util.Random;
 /** Random runs of calls, each answered by BallBook and by a slow model that keeps every event and sums anew. */
 public final class ModelTest {
     private static int wrong = 0;
+    private static final String[] NAMES = {
+        "side", "player", "toss", "seat", "turn", "over", "ball", "feed", "open", "tear", "put", "mend", "out", "bowls",
+        "undo", "why", "now", "score", "overs", "entry", "bats", "fields", "record", "image", "told", "check", "take",
+        "list", "sum"};
+    private static final int[] EDGES = {
+        Integer.MIN_VALUE, Integer.MIN_VALUE + 1, -256, -2, -1, 3, 4, 5, 10, 11, 12, 15, 16, 40, 41, 60, 120, 121, 130,
+        400, 6000, 8000, Integer.MAX_VALUE - 1, Integer.MAX_VALUE};
     private static final long THREW = Long.MIN_VALUE + 7;
 
     public static void main(String[] args) {
@@ -75,9 +82,21 @@ public final class ModelTest {
                 imageAndBack(g);
             } else if (r < 73) {
                 small();
-            } else {
+            } else if (r < 98) {
                 ask(g);
+            } else {
+                wild();
             }
+        }
+
+        /** Any call with any numbers, the greatest and the smallest among them. */
+        void wild() {
+            String name = NAMES[any(NAMES.length)];
+            int[] a = new int[5];
+            for (int k = 0; k < a.length; k++) {
+                a[k] = any(3) == 0 ? EDGES[any(EDGES.length)] : any(3) == 0 ? random.nextInt() : any(3);
+            }
+            call(name, a);
         }
 
         int goodEntry() {

@@ -990,6 +990,30 @@ public final class PromiseTest {
         recordIs(x, 0, 8, 1, 0, 1, 2, 0);
         x.undo();
         recordIs(x, 0, 12, 0, 1, 1, 0, 0);
+        recordOfLaterTurns();
+    }
+
+    private static void recordOfLaterTurns() {
+        at = "24 record, later turns and games";
+        BallBook x = game(5, 2);
+        x.seat(0, 0, 0, 7);
+        x.seat(0, 1, 4, 11);
+        turnOf(x, 3, 1, CLOSE);
+        turnOf(x, 3, 2, CLOSE);
+        turnOf(x, 4, 6, 6, 49);
+        recordIs(x, 0, 12, 0, 2, 0, 7, 0);
+        recordIs(x, 1, 1, 0, 2, 1, 11, 12);
+        recordIs(x, 2, 12, 0, 2, 0, N, 0);
+        recordIs(x, 3, 13, N, N, 0, 7, 0);
+        int[] bytes = imageOf(x, 0);
+        feedBytes(x, bytes);
+        is(x.take(bytes.length), 1);
+        recordIs(x, 0, 12, 0, 2, 0, 7, 0);
+        recordIs(x, 3, 26, N, N, 0, 7, 0);
+        x.side(11);
+        x.toss(2, 0, 1, 1);
+        x.turn(2);
+        recordIs(x, 3, 26, N, N, 0, 7, 0);
     }
 
     private static void image() {
@@ -1018,6 +1042,10 @@ public final class PromiseTest {
         is(got[78], 26);
         is(got[79], 0);
         is(got[81], 0);
+        is(checked(x, got), 0);
+        is(checked(x, with(got, 77, 0)), 78);
+        is(checked(x, with(got, 78, 27)), 79);
+        is(checked(x, with(with(got, 77, 2), 78, 27)), 78);
         is(x.image(9), N);
         is(x.list(4), 82);
     }
@@ -1152,6 +1180,8 @@ public final class PromiseTest {
         is(right[36], 2);
         is(checked(x, with(right, 33, NOTE)), 37);
         is(checked(x, with(right, 29, 11)), 30);
+        is(checked(x, with(right, 29, 15)), 30);
+        is(checked(x, with(with(right, 29, 15), 39, 16)), 40);
         is(checked(x, with(right, 32, 21)), 33);
         is(checked(x, with(right, 31, CLOSE)), 33);
         is(checked(x, with(right, 39, 2)), 40);
