@@ -1,157 +1,47 @@
-import java.util.NoSuchElementException;
-
 /** For each promise of the document: ordinary inputs, its edges and wrong inputs, with answers worked out by hand. */
-public final class PromiseTest {
-    private static final int N = BallBook.NONE;
-    private static final int CLOSE = 144;
-    private static final int NOTE = 112;
-    private static int wrong = 0;
-    private static String at = "";
-
-    private interface Call {
-        long answer();
-    }
-
+public final class PromiseTest extends BookTest {
     public static void main(String[] args) {
-        newObject();
-        side();
-        player();
-        toss();
-        seat();
-        turn();
-        over();
-        ball();
-        ballRain();
-        feed();
-        open();
-        tear();
-        put();
-        mend();
-        out();
-        bowls();
-        undo();
-        why();
-        now();
-        nowChase();
-        nowTarget();
-        winners();
-        howTurnsEnd();
-        score();
-        overs();
-        entry();
-        bats();
-        fields();
-        record();
-        image();
-        told();
-        check();
-        checkByPlay();
-        take();
-        list();
-        sum();
-        System.out.println(wrong == 0 ? "all promises hold" : wrong + " answers are not as due");
-        if (wrong != 0) {
-            System.exit(1);
-        }
-    }
-
-    private static void is(long got, long due) {
-        if (got != due) {
-            wrong++;
-            StackTraceElement here = new Throwable().getStackTrace()[1];
-            System.out.println(at + " line " + here.getLineNumber() + ": answered " + got + ", due is " + due);
-        }
-    }
-
-    private static void is(boolean got, boolean due) {
-        if (got != due) {
-            wrong++;
-            StackTraceElement here = new Throwable().getStackTrace()[1];
-            System.out.println(at + " line " + here.getLineNumber() + ": answered " + got);
-        }
-    }
-
-    private static void none(Call call) {
-        String got;
-        try {
-            got = "" + call.answer();
-        } catch (NoSuchElementException e) {
-            return;
-        }
-        wrong++;
-        StackTraceElement here = new Throwable().getStackTrace()[1];
-        System.out.println(at + " line " + here.getLineNumber() + ": answered " + got + ", NoSuchElementException is due");
-    }
-
-    /** A book with two sides of 11 and 12 players and one game. */
-    private static BallBook game(int overs, int turns) {
-        BallBook x = new BallBook();
-        x.side(11);
-        x.side(12);
-        x.toss(0, 1, overs, turns);
-        return x;
-    }
-
-    private static void balls(BallBook x, int... entries) {
-        for (int entry : entries) {
-            if (!x.ball(0, entry)) {
-                wrong++;
-                System.out.println(at + ": entry " + entry + " is refused by rule " + x.why());
-            }
-        }
-    }
-
-    private static void overOf(BallBook x, int bowler, int... entries) {
-        if (!x.over(0, bowler)) {
-            wrong++;
-            System.out.println(at + ": an over is refused by rule " + x.why());
-        }
-        balls(x, entries);
-    }
-
-    private static void turnOf(BallBook x, int bowler, int... entries) {
-        if (!x.turn(0)) {
-            wrong++;
-            System.out.println(at + ": a turn is refused by rule " + x.why());
-        }
-        overOf(x, bowler, entries);
-    }
-
-    private static int[] imageOf(BallBook x, int game) {
-        int[] bytes = new int[Math.max(x.image(game), 0)];
-        for (int k = 0; k < bytes.length; k++) {
-            bytes[k] = x.told(k);
-        }
-        return bytes;
-    }
-
-    private static void feedBytes(BallBook x, int... bytes) {
-        for (int from = 0; from < bytes.length; from += 20) {
-            int[] n = new int[5];
-            for (int k = 0; k < 20; k++) {
-                n[k / 4] = n[k / 4] << 8 | (from + k < bytes.length ? bytes[from + k] : 0);
-            }
-            x.feed(n[0], n[1], n[2], n[3], n[4]);
-        }
-    }
-
-    private static int checked(BallBook x, int... bytes) {
-        feedBytes(x, bytes);
-        return x.check(bytes.length);
-    }
-
-    private static int[] with(int[] bytes, int place, int b) {
-        int[] other = bytes.clone();
-        other[place] = b;
-        return other;
-    }
-
-    private static int[] cut(int[] bytes, int n) {
-        return java.util.Arrays.copyOf(bytes, n);
+        test("1 new object", PromiseTest::newObject);
+        test("2 side", PromiseTest::side);
+        test("3 player", PromiseTest::player);
+        test("4 toss", PromiseTest::toss);
+        test("5 seat", PromiseTest::seat);
+        test("6 turn", PromiseTest::turn);
+        test("7 over", PromiseTest::over);
+        test("8 ball", PromiseTest::ball);
+        test("8 ball, rain", PromiseTest::ballRain);
+        test("9 feed", PromiseTest::feed);
+        test("10 open", PromiseTest::open);
+        test("11 tear", PromiseTest::tear);
+        test("12 put", PromiseTest::put);
+        test("13 mend", PromiseTest::mend);
+        test("14 out", PromiseTest::out);
+        test("15 bowls", PromiseTest::bowls);
+        test("16 undo", PromiseTest::undo);
+        test("17 why", PromiseTest::why);
+        test("18 now", PromiseTest::now);
+        test("18 now, the chase", PromiseTest::nowChase);
+        test("18 now, the target", PromiseTest::nowTarget);
+        test("18 now, who wins", PromiseTest::winners);
+        test("19 how turns end", PromiseTest::howTurnsEnd);
+        test("19 score", PromiseTest::score);
+        test("20 overs", PromiseTest::overs);
+        test("21 entry", PromiseTest::entry);
+        test("22 bats", PromiseTest::bats);
+        test("23 fields", PromiseTest::fields);
+        test("24 record", PromiseTest::record);
+        test("24 record, later turns and games", PromiseTest::recordOfLaterTurns);
+        test("25 image", PromiseTest::image);
+        test("26 told", PromiseTest::told);
+        test("27 check", PromiseTest::check);
+        test("27 check, by play", PromiseTest::checkByPlay);
+        test("28 take", PromiseTest::take);
+        test("29 list", PromiseTest::list);
+        test("30 sum", PromiseTest::sum);
+        end();
     }
 
     private static void newObject() {
-        at = "1 new object";
         BallBook x = new BallBook();
         for (int what = 0; what < 5; what++) {
             is(x.list(what), 0);
@@ -165,7 +55,6 @@ public final class PromiseTest {
     }
 
     private static void side() {
-        at = "2 side";
         BallBook x = new BallBook();
         is(x.side(10), N);
         is(x.side(31), N);
@@ -183,7 +72,6 @@ public final class PromiseTest {
     }
 
     private static void player() {
-        at = "3 player";
         BallBook x = new BallBook();
         is(x.player(0), N);
         x.side(29);
@@ -199,7 +87,6 @@ public final class PromiseTest {
     }
 
     private static void toss() {
-        at = "4 toss";
         BallBook x = new BallBook();
         is(x.toss(0, 1, 1, 1), N);
         x.side(11);
@@ -227,7 +114,6 @@ public final class PromiseTest {
     }
 
     private static void seat() {
-        at = "5 seat";
         BallBook x = game(2, 1);
         is(x.seat(1, 0, 0, 0), false);
         is(x.seat(-1, 0, 0, 0), false);
@@ -253,7 +139,6 @@ public final class PromiseTest {
     }
 
     private static void turn() {
-        at = "6 turn";
         BallBook x = game(1, 1);
         is(x.turn(1), false);
         is(x.why(), 0);
@@ -296,7 +181,6 @@ public final class PromiseTest {
     }
 
     private static void over() {
-        at = "7 over";
         BallBook x = game(6, 1);
         is(x.over(1, 0), false);
         is(x.why(), 0);
@@ -338,7 +222,6 @@ public final class PromiseTest {
     }
 
     private static void ball() {
-        at = "8 ball";
         BallBook x = game(2, 1);
         is(x.ball(1, 0), false);
         is(x.why(), 0);
@@ -378,7 +261,6 @@ public final class PromiseTest {
     }
 
     private static void ballRain() {
-        at = "8 ball, rain";
         BallBook x = game(20, 1);
         turnOf(x, 0, 0, 0, 0);
         overOf(x, 1);
@@ -401,7 +283,6 @@ public final class PromiseTest {
     }
 
     private static void feed() {
-        at = "9 feed";
         BallBook x = game(2, 1);
         turnOf(x, 0);
         is(x.feed(0x80FF0102, 3, 4, 5, -2), 20);
@@ -419,7 +300,6 @@ public final class PromiseTest {
     }
 
     private static void open() {
-        at = "10 open";
         BallBook x = game(2, 1);
         turnOf(x, 0, 4);
         x.feed(0x01020304, 0x05040302, 0, 0, 0);
@@ -451,7 +331,6 @@ public final class PromiseTest {
     }
 
     private static void tear() {
-        at = "11 tear";
         BallBook x = game(2, 1);
         turnOf(x, 0, 1, 4);
         is(x.tear(1, 0, 0), false);
@@ -475,7 +354,6 @@ public final class PromiseTest {
     }
 
     private static void put() {
-        at = "12 put";
         BallBook x = game(2, 1);
         turnOf(x, 0, 1, 2);
         is(x.put(1, 0, 0, 0, 0), false);
@@ -500,7 +378,6 @@ public final class PromiseTest {
     }
 
     private static void mend() {
-        at = "13 mend";
         BallBook x = game(2, 1);
         turnOf(x, 0, 1, 2);
         is(x.mend(1, 0, 0, 0, 0), N);
@@ -519,7 +396,6 @@ public final class PromiseTest {
     }
 
     private static void out() {
-        at = "14 out";
         BallBook x = game(2, 1);
         turnOf(x, 0, 1, 2, 3);
         is(x.out(1, 0, 0, 0), N);
@@ -540,7 +416,6 @@ public final class PromiseTest {
     }
 
     private static void bowls() {
-        at = "15 bowls";
         BallBook x = game(5, 1);
         turnOf(x, 3, 1);
         overOf(x, 4, 1);
@@ -563,7 +438,6 @@ public final class PromiseTest {
     }
 
     private static void undo() {
-        at = "16 undo";
         BallBook x = game(2, 1);
         x.toss(1, 0, 2, 1);
         is(x.undo(), N);
@@ -611,7 +485,6 @@ public final class PromiseTest {
     }
 
     private static void why() {
-        at = "17 why";
         BallBook x = game(2, 1);
         is(x.why(), 0);
         x.over(0, 0);
@@ -643,7 +516,6 @@ public final class PromiseTest {
     }
 
     private static void now() {
-        at = "18 now";
         BallBook x = game(3, 1);
         int[] first = {N, N, N, N, N, N, N, N, N, N, 0, 0, N, N, N};
         for (int what = 0; what < 15; what++) {
@@ -672,7 +544,6 @@ public final class PromiseTest {
     }
 
     private static void nowChase() {
-        at = "18 now, the chase";
         BallBook x = game(1, 1);
         turnOf(x, 0, 6, 6, 6, 6, 6, 4);
         is(x.now(0, 6), N);
@@ -704,7 +575,6 @@ public final class PromiseTest {
     }
 
     private static void nowTarget() {
-        at = "18 now, the target";
         BallBook x = game(10, 1);
         turnOf(x, 0, 6, 6, 6, 6, 6, 6);
         overOf(x, 1, 0, 0, 0, 0, 0, 0, 128 + 8);
@@ -748,7 +618,6 @@ public final class PromiseTest {
     }
 
     private static void winners() {
-        at = "18 now, who wins";
         BallBook x = game(1, 1);
         turnOf(x, 0, 3, CLOSE);
         turnOf(x, 0, 2, CLOSE);
@@ -778,7 +647,6 @@ public final class PromiseTest {
     }
 
     private static void howTurnsEnd() {
-        at = "19 how turns end";
         BallBook x = game(2, 1);
         turnOf(x, 0, 48, 48, 48, 48, 48, 48);
         overOf(x, 1, 48, 48, 48, 0, 0, 48);
@@ -809,7 +677,6 @@ public final class PromiseTest {
     }
 
     private static void score() {
-        at = "19 score";
         BallBook x = game(6, 1);
         none(() -> x.score(0, 0, 0));
         x.turn(0);
@@ -839,7 +706,6 @@ public final class PromiseTest {
     }
 
     private static void overs() {
-        at = "20 overs";
         BallBook x = game(6, 1);
         turnOf(x, 7, 4, 20, 38, 50, 71, 100);
         overOf(x, 8, 0, 0, 0, 0, 0, 0, NOTE);
@@ -869,7 +735,6 @@ public final class PromiseTest {
     }
 
     private static void entry() {
-        at = "21 entry";
         BallBook x = game(6, 1);
         turnOf(x, 7, 4, 95);
         is(x.entry(0, 0, 0, 0), 4);
@@ -884,7 +749,6 @@ public final class PromiseTest {
     }
 
     private static void bats() {
-        at = "22 bats";
         BallBook x = game(6, 1);
         x.seat(0, 0, 2, 9);
         none(() -> x.bats(0, 0, 0, 0));
@@ -908,7 +772,6 @@ public final class PromiseTest {
     }
 
     private static void fields() {
-        at = "23 fields";
         BallBook x = game(6, 1);
         x.seat(0, 1, 10, 11);
         none(() -> x.fields(0, 0, 0, 0));
@@ -933,14 +796,7 @@ public final class PromiseTest {
         is(x.bats(0, 1, 10, 3), 11);
     }
 
-    private static void recordIs(BallBook x, int sort, int... due) {
-        for (int what = 0; what < 6; what++) {
-            is(x.record(sort, what), due[what]);
-        }
-    }
-
     private static void record() {
-        at = "24 record";
         BallBook x = new BallBook();
         none(() -> x.record(4, 0));
         none(() -> x.record(-1, 0));
@@ -990,11 +846,9 @@ public final class PromiseTest {
         recordIs(x, 0, 8, 1, 0, 1, 2, 0);
         x.undo();
         recordIs(x, 0, 12, 0, 1, 1, 0, 0);
-        recordOfLaterTurns();
     }
 
     private static void recordOfLaterTurns() {
-        at = "24 record, later turns and games";
         BallBook x = game(5, 2);
         x.seat(0, 0, 0, 7);
         x.seat(0, 1, 4, 11);
@@ -1017,7 +871,6 @@ public final class PromiseTest {
     }
 
     private static void image() {
-        at = "25 image";
         BallBook x = game(5, 1);
         x.seat(0, 1, 0, 11);
         is(x.image(1), N);
@@ -1051,7 +904,6 @@ public final class PromiseTest {
     }
 
     private static void told() {
-        at = "26 told";
         BallBook x = game(5, 1);
         none(() -> x.told(0));
         x.image(0);
@@ -1059,67 +911,6 @@ public final class PromiseTest {
         is(x.told(27), 0);
         none(() -> x.told(28));
         none(() -> x.told(-1));
-        bigImage();
-    }
-
-    /** 100 overs of 40 notes each in two turns can only come by the tape: 300 feeds, two images of 6,000 bytes at most. */
-    private static void bigImage() {
-        at = "25 image, too big";
-        BallBook x = game(120, 1);
-        java.util.ArrayList<Integer> bytes = new java.util.ArrayList<>();
-        for (int b : imageOf(x, 0)) {
-            bytes.add(b);
-        }
-        bytes.set(27, 1);
-        bytes.add(120);
-        for (int o = 0; o < 120; o++) {
-            bytes.add(o % 10);
-            bytes.add(o < 100 ? 41 : 1);
-            for (int i = 0; i < 40 && o < 100; i++) {
-                bytes.add(NOTE);
-            }
-        }
-        bytes.add(0);
-        bytes.add(0);
-        int[] all = bytes.stream().mapToInt(Integer::intValue).toArray();
-        is(all.length, 28 + 1 + 240 + 4000 + 2);
-        feedBytes(x, all);
-        is(x.take(all.length), 1);
-        for (int o = 100; o < 120; o++) {
-            x.feed(0x70707070, 0x70707070, 0x70707070, 0x70707070, 0x70707070);
-            x.feed(0x70707070, 0x70707070, 0x70707070, 0x70707070, 0x70707070);
-            is(x.open(1, 0, o, 40), true);
-        }
-        is(x.image(1), 28 + 1 + 240 + 4800 + 2);
-        is(x.put(1, 0, 119, 0, 1), false);
-        x.mend(1, 0, 119, 39, CLOSE);
-        is(x.turn(1), true);
-        is(x.image(1), 28 + 1 + 240 + 4800 + 2 + 3);
-        int size = 5074;
-        int o = 0;
-        while (size + 42 <= 8000 - 24) {
-            is(x.over(1, o % 10), true);
-            x.feed(0x70707070, 0x70707070, 0x70707070, 0x70707070, 0x70707070);
-            x.feed(0x70707070, 0x70707070, 0x70707070, 0x70707070, 0x70707070);
-            x.open(1, 1, o, 40);
-            size += 42;
-            o++;
-        }
-        is(x.image(1), size);
-        x.over(1, 10);
-        size += 2;
-        while (size < 8000) {
-            is(x.ball(1, NOTE), true);
-            size++;
-        }
-        is(x.image(1), 8000);
-        is(x.told(7999), 0);
-        x.ball(1, NOTE);
-        is(x.image(2), N);
-        is(x.list(4), 8000);
-        is(x.image(1), N);
-        is(x.list(4), 0);
-        none(() -> x.told(0));
     }
 
     private static int[] rightImage(BallBook x) {
@@ -1131,7 +922,6 @@ public final class PromiseTest {
     }
 
     private static void check() {
-        at = "27 check";
         BallBook x = game(5, 1);
         is(x.check(-1), -1);
         is(x.check(1), -1);
@@ -1173,7 +963,6 @@ public final class PromiseTest {
     }
 
     private static void checkByPlay() {
-        at = "27 check, by play";
         BallBook x = game(5, 1);
         int[] right = rightImage(x);
         // 28 overs, 29 bowler, 30 size, 31 to 33 entries, 34 and 35 score, 36 overs, 37 bowler, 38 size (none), 39 bowler, 40 size, 41 entry, 42 and 43 score
@@ -1196,7 +985,6 @@ public final class PromiseTest {
     }
 
     private static void take() {
-        at = "28 take";
         BallBook x = game(5, 1);
         int[] right = rightImage(x);
         is(x.take(-1), N);
@@ -1231,7 +1019,6 @@ public final class PromiseTest {
     }
 
     private static void list() {
-        at = "29 list";
         BallBook x = game(5, 1);
         turnOf(x, 0, 1);
         x.feed(0, 0, 0, 0, 0);
@@ -1247,7 +1034,6 @@ public final class PromiseTest {
     }
 
     private static void sum() {
-        at = "30 sum";
         BallBook x = game(5, 2);
         none(() -> x.sum(1));
         none(() -> x.sum(-1));
