@@ -50,7 +50,7 @@ public final class PageEdgesTest extends BookTest {
             is(x.undo(), N);
             none(() -> x.told(0));
         });
-        test("the constants: NONE is -1", () -> is(BallBook.NONE, -1));
+        test("promise 1, the constants: NONE is -1", () -> is(BallBook.NONE, -1));
         test("promise 1, BallBook(): one object knows nothing of another one", () -> {
             BallBook one = game(2, 1);
             turnOf(one, 0, 4);
@@ -187,7 +187,7 @@ public final class PageEdgesTest extends BookTest {
             is(x.turn(399), true);
             is(x.score(399, 0, 5), 7);
         });
-        test("terms 1: PLAYERS 0 .. 10 of its SIDE have the SEATS at first", () -> {
+        test("promise 4, toss; terms 1: PLAYERS 0 .. 10 of its SIDE have the SEATS at first", () -> {
             BallBook x = game(1, 1);
             x.turn(0);
             for (int seat = 0; seat < 11; seat++) {

@@ -52,17 +52,17 @@ public final class PlayEdgesTest extends BookTest {
     }
 
     private static void entries() {
-        test("terms 1, rule 7: BALL has v 0 .. 6", () -> vIs(0, 0, 6));
-        test("terms 1, rule 7: WIDE has v 0 .. 4", () -> vIs(1, 0, 4));
-        test("terms 1, rule 7: FOUL has v 0 .. 6", () -> vIs(2, 0, 6));
-        test("terms 1, rule 7: OUT has v 0 .. 3", () -> vIs(3, 0, 3));
-        test("terms 1, rule 7: RUN OUT has v 0 .. 7", () -> vIs(4, 0, 7));
-        test("terms 1, rule 7: DEAD has any v", () -> vIs(5, 0, 15));
-        test("terms 1, rule 7: BYE has v 1 .. 4", () -> vIs(6, 1, 4));
-        test("terms 1, rule 7: NOTE has any v", () -> vIs(7, 0, 15));
-        test("terms 1, rule 7: RAIN has v 1 .. 15", () -> vIs(8, 1, 15));
-        test("terms 1, rule 7: CLOSE has v 0 alone", () -> vIs(9, 0, 0));
-        test("terms 1, rule 7: there is no b / 16 above 9", () -> {
+        test("promise 8, ball; terms 1, rule 7: BALL has v 0 .. 6", () -> vIs(0, 0, 6));
+        test("promise 8, ball; terms 1, rule 7: WIDE has v 0 .. 4", () -> vIs(1, 0, 4));
+        test("promise 8, ball; terms 1, rule 7: FOUL has v 0 .. 6", () -> vIs(2, 0, 6));
+        test("promise 8, ball; terms 1, rule 7: OUT has v 0 .. 3", () -> vIs(3, 0, 3));
+        test("promise 8, ball; terms 1, rule 7: RUN OUT has v 0 .. 7", () -> vIs(4, 0, 7));
+        test("promise 8, ball; terms 1, rule 7: DEAD has any v", () -> vIs(5, 0, 15));
+        test("promise 8, ball; terms 1, rule 7: BYE has v 1 .. 4", () -> vIs(6, 1, 4));
+        test("promise 8, ball; terms 1, rule 7: NOTE has any v", () -> vIs(7, 0, 15));
+        test("promise 8, ball; terms 1, rule 7: RAIN has v 1 .. 15", () -> vIs(8, 1, 15));
+        test("promise 8, ball; terms 1, rule 7: CLOSE has v 0 alone", () -> vIs(9, 0, 0));
+        test("promise 8, ball; terms 1, rule 7: there is no b / 16 above 9", () -> {
             for (int kind = 10; kind < 16; kind++) {
                 vIs(kind, 16, 16);
             }
@@ -86,33 +86,33 @@ public final class PlayEdgesTest extends BookTest {
     }
 
     private static void whatCounts() {
-        test("terms 1: BALL of 0 and of 6", () -> {
+        test("promise 19, score; terms 1: BALL of 0 and of 6", () -> {
             makes(0, 0, 0, 0, 0, 1);
             makes(6, 6, 0, 6, 6, 1);
         });
-        test("terms 1: WIDE of 0 and of 4", () -> {
+        test("promise 19, score; terms 1: WIDE of 0 and of 4", () -> {
             makes(WIDE, 1, 1, 0, 1, 0);
             makes(WIDE + 4, 5, 5, 0, 1, 0);
         });
-        test("terms 1: FOUL of 0 and of 6", () -> {
+        test("promise 19, score; terms 1: FOUL of 0 and of 6", () -> {
             makes(FOUL, 1, 1, 0, 1, 0);
             makes(FOUL + 6, 7, 1, 6, 7, 0);
         });
-        test("terms 1: OUT of 0 and of 3", () -> {
+        test("promise 19, score; terms 1: OUT of 0 and of 3", () -> {
             makes(OUT, 0, 0, 0, 0, 1);
             makes(OUT + 3, 0, 0, 0, 0, 1);
         });
-        test("terms 1: RUN OUT of 0, 1, 2 and 7", () -> {
+        test("promise 19, score; terms 1: RUN OUT of 0, 1, 2 and 7", () -> {
             makes(RUN_OUT, 0, 0, 0, 0, 1);
             makes(RUN_OUT + 1, 0, 0, 0, 0, 1);
             makes(RUN_OUT + 2, 1, 0, 1, 1, 1);
             makes(RUN_OUT + 7, 3, 0, 3, 3, 1);
         });
-        test("terms 1: BYE of 1 and of 4", () -> {
+        test("promise 19, score; terms 1: BYE of 1 and of 4", () -> {
             makes(BYE + 1, 1, 1, 0, 0, 1);
             makes(BYE + 4, 4, 4, 0, 0, 1);
         });
-        test("terms 1: DEAD, NOTE, RAIN and CLOSE make nothing and don't count", () -> {
+        test("promise 19, score; terms 1: DEAD, NOTE, RAIN and CLOSE make nothing and don't count", () -> {
             makes(DEAD + 1, 0, 0, 0, 0, 0);
             makes(NOTE + 15, 0, 0, 0, 0, 0);
             makes(RAIN + 15, 0, 0, 0, 0, 0);
@@ -139,7 +139,7 @@ public final class PlayEdgesTest extends BookTest {
     }
 
     private static void whoFaces() {
-        test("terms 2: SEATS 0 and 1 are in, 0 faces, in each TURN", () -> {
+        test("promise 18, now; terms 2: SEATS 0 and 1 are in, 0 faces, in each TURN", () -> {
             BallBook x = begun(120);
             balls(x, 1, CLOSE);
             x.turn(0);
@@ -149,36 +149,36 @@ public final class PlayEdgesTest extends BookTest {
             is(x.bats(0, 1, 1, 2), 1);
             is(x.bats(0, 1, 2, 2), 0);
         });
-        test("terms 2: odd runs of a BALL or FOUL bring the other one", () -> {
+        test("promise 18, now; terms 2: odd runs of a BALL or FOUL bring the other one", () -> {
             for (int v = 0; v <= 6; v++) {
                 crosses(v, v % 2 == 1);
                 crosses(FOUL + v, v % 2 == 1);
             }
         });
-        test("terms 2: odd runs of a WIDE or BYE bring the other one, the WIDE's own run does not", () -> {
+        test("promise 18, now; terms 2: odd runs of a WIDE or BYE bring the other one, the WIDE's own run does not", () -> {
             for (int v = 0; v <= 4; v++) {
                 crosses(WIDE + v, v % 2 == 1);
                 crosses(BYE + Math.max(v, 1), Math.max(v, 1) % 2 == 1);
             }
         });
-        test("terms 2: the v of DEAD, NOTE, RAIN brings nobody", () -> {
+        test("promise 18, now; terms 2: the v of DEAD, NOTE, RAIN brings nobody", () -> {
             crosses(DEAD + 1, false);
             crosses(NOTE + 15, false);
             crosses(RAIN + 1, false);
         });
-        test("terms 1, RUN OUT: even v, the one who faces then leaves", () -> {
+        test("promise 18, now; terms 1, RUN OUT: even v, the one who faces then leaves", () -> {
             runOut(0, 2, 1, 0);
             runOut(2, 2, 0, 1);
             runOut(4, 2, 1, 0);
             runOut(6, 2, 0, 1);
         });
-        test("terms 1, RUN OUT: odd v, the other one then leaves", () -> {
+        test("promise 18, now; terms 1, RUN OUT: odd v, the other one then leaves", () -> {
             runOut(1, 0, 2, 1);
             runOut(3, 1, 2, 0);
             runOut(5, 0, 2, 1);
             runOut(7, 1, 2, 0);
         });
-        test("terms 2: behind the sixth that counts the other one faces, behind the fifth not", () -> {
+        test("promise 18, now; terms 2: behind the sixth that counts the other one faces, behind the fifth not", () -> {
             BallBook x = begun(2);
             balls(x, 0, 0, 0, 0, 0);
             nowIs(x, 1, 0);
@@ -189,7 +189,7 @@ public final class PlayEdgesTest extends BookTest {
             x.over(0, 1);
             nowIs(x, 1, 1);
         });
-        test("terms 2: an odd run with the sixth brings the same one back", () -> {
+        test("promise 18, now; terms 2: an odd run with the sixth brings the same one back", () -> {
             BallBook x = begun(2);
             balls(x, 0, 0, 0, 0, 0, 1);
             nowIs(x, 1, 0);
@@ -198,14 +198,14 @@ public final class PlayEdgesTest extends BookTest {
     }
 
     private static void whoLeaves() {
-        test("terms 2: OUT, the next SEAT comes where that one stood", () -> {
+        test("promise 18, now; terms 2: OUT, the next SEAT comes where that one stood", () -> {
             BallBook x = begun(120);
             balls(x, 1, OUT + 1);
             nowIs(x, 1, 2);
             nowIs(x, 2, 0);
             is(x.bats(0, 0, 1, 2), 3);
         });
-        test("terms 2: with the ninth out SEAT 10 comes, with the tenth nobody does", () -> {
+        test("promise 18, now; terms 2: with the ninth out SEAT 10 comes, with the tenth nobody does", () -> {
             BallBook x = begun(120);
             balls(x, times(6, OUT));
             overOf(x, 1, OUT, OUT, OUT);
@@ -222,7 +222,7 @@ public final class PlayEdgesTest extends BookTest {
             scoreIs(x, 0, 1, 10);
             is(x.bats(0, 0, 7, 2), 1);
         });
-        test("terms 2: where the other one is the tenth, nobody is the other one", () -> {
+        test("promise 18, now; terms 2: where the other one is the tenth, nobody is the other one", () -> {
             BallBook x = begun(120);
             balls(x, times(6, OUT));
             overOf(x, 1, OUT, OUT, OUT, RUN_OUT + 1);
@@ -231,7 +231,7 @@ public final class PlayEdgesTest extends BookTest {
             is(x.bats(0, 0, 7, 2), 6);
             is(x.bats(0, 0, 10, 2), 1);
         });
-        test("terms 2: the tenth out with the sixth ball: the OVER is whole, the other one faces", () -> {
+        test("promise 18, now; terms 2: the tenth out with the sixth ball: the OVER is whole, the other one faces", () -> {
             BallBook x = begun(120);
             balls(x, times(6, OUT));
             overOf(x, 1, 0, 0, OUT, OUT, OUT, OUT);
@@ -243,7 +243,7 @@ public final class PlayEdgesTest extends BookTest {
     }
 
     private static void wholeOvers() {
-        test("terms 2: an OVER is whole by its sixth that counts, and not OPEN", () -> {
+        test("promise 20, overs; terms 2: an OVER is whole by its sixth that counts, and not OPEN", () -> {
             BallBook x = begun(2);
             balls(x, 0, OUT, RUN_OUT, BYE + 1, 0);
             is(x.overs(0, 0, 0, 5), 0);
@@ -259,7 +259,7 @@ public final class PlayEdgesTest extends BookTest {
             scoreIs(x, 0, 3, 0);
             scoreIs(x, 0, 7, 0);
         });
-        test("terms 2: one that is missing is OPEN, and whole at once", () -> {
+        test("promise 20, overs; terms 2: one that is missing is OPEN, and whole at once", () -> {
             BallBook x = begun(2);
             x.tear(0, 0, 0);
             is(x.overs(0, 0, 0, 5), 1);
@@ -270,7 +270,7 @@ public final class PlayEdgesTest extends BookTest {
             nowIs(x, 4, 6);
             nowIs(x, 1, 1);
         });
-        test("terms 2: one that hasn't six is OPEN and whole only where another OVER follows", () -> {
+        test("promise 20, overs; terms 2: one that hasn't six is OPEN and whole only where another OVER follows", () -> {
             BallBook x = begun(2);
             balls(x, 0, 0, 0, 0, 0);
             is(x.overs(0, 0, 0, 5), 0);
@@ -285,7 +285,7 @@ public final class PlayEdgesTest extends BookTest {
             nowIs(x, 4, 6);
             nowIs(x, 1, 1);
         });
-        test("terms 2: an empty ROW is OPEN where another OVER follows", () -> {
+        test("promise 20, overs; terms 2: an empty ROW is OPEN where another OVER follows", () -> {
             BallBook x = begun(2);
             is(x.overs(0, 0, 0, 6), 0);
             x.over(0, 1);
@@ -293,7 +293,7 @@ public final class PlayEdgesTest extends BookTest {
             nowIs(x, 1, 1);
             nowIs(x, 4, 6);
         });
-        test("terms 2: an OVER of six is not OPEN, though another one follows", () -> {
+        test("promise 20, overs; terms 2: an OVER of six is not OPEN, though another one follows", () -> {
             BallBook x = begun(3);
             balls(x, 0, 0, 0, 0, 0, 0);
             x.over(0, 1);
@@ -301,7 +301,7 @@ public final class PlayEdgesTest extends BookTest {
             scoreIs(x, 0, 7, 0);
             scoreIs(x, 0, 2, 1);
         });
-        test("terms 2: the last OVER of a TURN that ended is not OPEN by the next TURN", () -> {
+        test("promise 20, overs; terms 2: the last OVER of a TURN that ended is not OPEN by the next TURN", () -> {
             BallBook x = begun(2);
             balls(x, 0, CLOSE);
             x.turn(0);
@@ -309,7 +309,7 @@ public final class PlayEdgesTest extends BookTest {
             is(x.overs(0, 0, 0, 6), 0);
             scoreIs(x, 0, 3, 1);
         });
-        test("terms 2: one that follows but can't be makes nothing whole", () -> {
+        test("promise 20, overs; terms 2: one that follows but can't be makes nothing whole", () -> {
             BallBook x = begun(3);
             balls(x, 0);
             x.over(0, 1);
@@ -322,7 +322,7 @@ public final class PlayEdgesTest extends BookTest {
     }
 
     private static void endsOfTurns() {
-        test("terms 2: a TURN ends (1) by its tenth out, not by the ninth", () -> {
+        test("promise 19, score; terms 2: a TURN ends (1) by its tenth out, not by the ninth", () -> {
             BallBook x = begun(120);
             balls(x, times(6, OUT));
             overOf(x, 1, OUT, OUT, OUT);
@@ -330,7 +330,7 @@ public final class PlayEdgesTest extends BookTest {
             balls(x, RUN_OUT);
             scoreIs(x, 0, 6, 1);
         });
-        test("terms 2: a TURN ends (2) when as many OVERS as ALLOWED are whole", () -> {
+        test("promise 19, score; terms 2: a TURN ends (2) when as many OVERS as ALLOWED are whole", () -> {
             BallBook x = begun(2);
             balls(x, 0, 0, 0, 0, 0, 0);
             scoreIs(x, 0, 6, 0);
@@ -340,7 +340,7 @@ public final class PlayEdgesTest extends BookTest {
             scoreIs(x, 0, 6, 2);
             nowIs(x, 4, 0);
         });
-        test("terms 2: a TURN of 120 OVERS ends with the 120th", () -> {
+        test("promise 19, score; terms 2: a TURN of 120 OVERS ends with the 120th", () -> {
             BallBook x = game(120, 1);
             x.turn(0);
             for (int o = 0; o < 120; o++) {
@@ -356,40 +356,40 @@ public final class PlayEdgesTest extends BookTest {
             nowIs(x, 4, 0);
             is(x.overs(0, 0, 119, 7), 1);
         });
-        test("terms 2: a TURN ends (2) by a missing OVER, too", () -> {
+        test("promise 19, score; terms 2: a TURN ends (2) by a missing OVER, too", () -> {
             BallBook x = begun(1);
             scoreIs(x, 0, 6, 0);
             x.tear(0, 0, 0);
             scoreIs(x, 0, 6, 2);
             is(x.turn(0), true);
         });
-        test("terms 2: a TURN ends (3) by CLOSE, even as its first ENTRY", () -> {
+        test("promise 19, score; terms 2: a TURN ends (3) by CLOSE, even as its first ENTRY", () -> {
             BallBook x = begun(120);
             balls(x, CLOSE);
             scoreIs(x, 0, 6, 3);
             nowIs(x, 5, 3);
             nowIs(x, 9, 0);
         });
-        test("terms 2: a TURN ends (3) by CLOSE behind the sixth that counts", () -> {
+        test("promise 19, score; terms 2: a TURN ends (3) by CLOSE behind the sixth that counts", () -> {
             BallBook x = begun(2);
             balls(x, 0, 0, 0, 0, 0, 0, CLOSE);
             scoreIs(x, 0, 6, 3);
         });
-        test("terms 2: the tenth out with the last ball of all is 1, not 2", () -> {
+        test("promise 19, score; terms 2: the tenth out with the last ball of all is 1, not 2", () -> {
             BallBook x = begun(2);
             balls(x, times(6, OUT));
             overOf(x, 1, 0, 0, OUT, OUT, OUT, OUT);
             scoreIs(x, 0, 6, 1);
             scoreIs(x, 0, 2, 2);
         });
-        test("terms 2: WON with the last ball of all is 4, not 2", () -> {
+        test("promise 19, score; terms 2: WON with the last ball of all is 4, not 2", () -> {
             BallBook x = begun(1);
             balls(x, CLOSE);
             turnOf(x, 0, 0, 0, 0, 0, 0, 1);
             scoreIs(x, 1, 6, 4);
             scoreIs(x, 1, 2, 1);
         });
-        test("terms 2: WON with the tenth out is 4, not 1", () -> {
+        test("promise 19, score; terms 2: WON with the tenth out is 4, not 1", () -> {
             BallBook x = begun(2);
             balls(x, CLOSE);
             turnOf(x, 0, times(6, OUT));
@@ -398,7 +398,7 @@ public final class PlayEdgesTest extends BookTest {
             scoreIs(x, 1, 1, 10);
             nowIs(x, 10, 2);
         });
-        test("terms 2: the GAME is over when its last TURN has ended, not the one ahead", () -> {
+        test("promise 19, score; terms 2: the GAME is over when its last TURN has ended, not the one ahead", () -> {
             BallBook x = begun(1);
             balls(x, 1, CLOSE);
             nowIs(x, 10, 0);
@@ -410,7 +410,7 @@ public final class PlayEdgesTest extends BookTest {
     }
 
     private static void rulesOfTurns() {
-        test("rule 1: of a TURN on THE PAGE, the one ahead has not ended", () -> {
+        test("promise 6, turn; rule 1: of a TURN on THE PAGE, the one ahead has not ended", () -> {
             BallBook x = begun(1);
             balls(x, CLOSE);
             turnOf(x, 0, 0);
@@ -419,7 +419,7 @@ public final class PlayEdgesTest extends BookTest {
             nowIs(x, 0, 0);
             scoreIs(x, 1, 9, 0);
         });
-        test("rule 2: of a TURN on THE PAGE, the GAME is WON by a TURN", () -> {
+        test("promise 6, turn; rule 2: of a TURN on THE PAGE, the GAME is WON by a TURN", () -> {
             BallBook x = game(1, 2);
             turnOf(x, 0, CLOSE);
             turnOf(x, 0, 1, CLOSE);
@@ -449,14 +449,14 @@ public final class PlayEdgesTest extends BookTest {
     }
 
     private static void rulesOfOvers() {
-        test("rule 3: the TURN has ended, ahead of rules 4, 5, 6", () -> {
+        test("promise 7, over; rule 3: the TURN has ended, ahead of rules 4, 5, 6", () -> {
             BallBook x = begun(5);
             balls(x, CLOSE);
             refusedBy(x, x.over(0, 1), 3);
             refusedBy(x, x.over(0, 11), 3);
             refusedBy(x, x.over(0, 0), 3);
         });
-        test("rule 3: as many OVERS as ALLOWED have begun, though the last is not whole", () -> {
+        test("promise 7, over; rule 3: as many OVERS as ALLOWED have begun, though the last is not whole", () -> {
             BallBook x = begun(2);
             is(x.over(0, 1), true);
             refusedBy(x, x.over(0, 2), 3);
@@ -464,7 +464,7 @@ public final class PlayEdgesTest extends BookTest {
             refusedBy(x, x.over(0, 15), 3);
             scoreIs(x, 0, 10, 2);
         });
-        test("rule 3: RAIN makes an OVER on THE PAGE one too many", () -> {
+        test("promise 7, over; rule 3: RAIN makes an OVER on THE PAGE one too many", () -> {
             BallBook x = begun(2);
             x.over(0, 1);
             x.put(0, 0, 0, 0, RAIN + 1);
@@ -472,40 +472,40 @@ public final class PlayEdgesTest extends BookTest {
             is(x.overs(0, 0, 0, 7), 1);
             is(x.overs(0, 0, 1, 7), 0);
         });
-        test("rule 4: of an OVER on THE PAGE, a BOWLER of 11 .. 15", () -> {
+        test("promise 7, over; rule 4: of an OVER on THE PAGE, a BOWLER of 11 .. 15", () -> {
             BallBook x = begun(5);
             for (int bowler = 0; bowler < 16; bowler++) {
                 x.bowls(0, 0, 0, bowler);
                 nowIs(x, 11, bowler > 10 ? 4 : 0);
             }
         });
-        test("rule 5: bowled the OVER ahead, not the one ahead of that", () -> {
+        test("promise 7, over; rule 5: bowled the OVER ahead, not the one ahead of that", () -> {
             BallBook x = begun(6);
             refusedBy(x, x.over(0, 0), 5);
             is(x.over(0, 1), true);
             refusedBy(x, x.over(0, 1), 5);
             is(x.over(0, 0), true);
         });
-        test("rule 5: goes ahead of rule 6", () -> {
+        test("promise 7, over; rule 5: goes ahead of rule 6", () -> {
             BallBook x = begun(5);
             refusedBy(x, x.over(0, 0), 5);
             x.over(0, 1);
             refusedBy(x, x.over(0, 0), 6);
         });
-        test("rule 5: the OVER ahead is one of this TURN", () -> {
+        test("promise 7, over; rule 5: the OVER ahead is one of this TURN", () -> {
             BallBook x = begun(5);
             balls(x, CLOSE);
             x.turn(0);
             is(x.over(0, 0), true);
         });
-        test("rule 6: a fifth of 1 OVER, rounded up, is 1", () -> mostOfOne(1, 1));
-        test("rule 6: a fifth of 4 OVERS, rounded up, is 1", () -> mostOfOne(4, 1));
-        test("rule 6: a fifth of 5 OVERS is 1", () -> mostOfOne(5, 1));
-        test("rule 6: a fifth of 6 OVERS, rounded up, is 2", () -> mostOfOne(6, 2));
-        test("rule 6: a fifth of 10 OVERS is 2", () -> mostOfOne(10, 2));
-        test("rule 6: a fifth of 11 OVERS, rounded up, is 3", () -> mostOfOne(11, 3));
-        test("rule 6: a fifth of 120 OVERS is 24", () -> mostOfOne(120, 24));
-        test("rule 6: RAIN leaves the GAME's OVERS as they are", () -> {
+        test("promise 7, over; rule 6: a fifth of 1 OVER, rounded up, is 1", () -> mostOfOne(1, 1));
+        test("promise 7, over; rule 6: a fifth of 4 OVERS, rounded up, is 1", () -> mostOfOne(4, 1));
+        test("promise 7, over; rule 6: a fifth of 5 OVERS is 1", () -> mostOfOne(5, 1));
+        test("promise 7, over; rule 6: a fifth of 6 OVERS, rounded up, is 2", () -> mostOfOne(6, 2));
+        test("promise 7, over; rule 6: a fifth of 10 OVERS is 2", () -> mostOfOne(10, 2));
+        test("promise 7, over; rule 6: a fifth of 11 OVERS, rounded up, is 3", () -> mostOfOne(11, 3));
+        test("promise 7, over; rule 6: a fifth of 120 OVERS is 24", () -> mostOfOne(120, 24));
+        test("promise 7, over; rule 6: RAIN leaves the GAME's OVERS as they are", () -> {
             BallBook x = begun(10);
             balls(x, RAIN + 5);
             x.over(0, 1);
@@ -513,14 +513,14 @@ public final class PlayEdgesTest extends BookTest {
             x.over(0, 1);
             refusedBy(x, x.over(0, 0), 6);
         });
-        test("rule 6: those of another TURN don't count", () -> {
+        test("promise 7, over; rule 6: those of another TURN don't count", () -> {
             BallBook x = begun(5);
             overOf(x, 1, CLOSE);
             turnOf(x, 0);
             is(x.over(0, 1), true);
             refusedBy(x, x.over(0, 0), 6);
         });
-        test("rule 6: a missing OVER is bowled, too", () -> {
+        test("promise 7, over; rule 6: a missing OVER is bowled, too", () -> {
             BallBook x = begun(5);
             x.tear(0, 0, 0);
             x.over(0, 1);
@@ -529,7 +529,7 @@ public final class PlayEdgesTest extends BookTest {
     }
 
     private static void rulesOfEntries() {
-        test("rule 7: goes ahead of rule 8, 9 and 10", () -> {
+        test("promise 8, ball; rule 7: goes ahead of rule 8, 9 and 10", () -> {
             BallBook x = begun(2);
             balls(x, 0, 0, 0, 0, 0, 0);
             refusedBy(x, x.ball(0, 7), 7);
@@ -538,7 +538,7 @@ public final class PlayEdgesTest extends BookTest {
             refusedBy(x, x.ball(0, WIDE + 5), 7);
             refusedBy(x, x.ball(0, CLOSE + 1), 7);
         });
-        test("rule 8: the TURN has ended, for each kind, ahead of rules 9 and 10", () -> {
+        test("promise 8, ball; rule 8: the TURN has ended, for each kind, ahead of rules 9 and 10", () -> {
             BallBook x = begun(1);
             balls(x, 0, 0, 0, 0, 0, 0);
             for (int kind = 0; kind < 10; kind++) {
@@ -546,14 +546,14 @@ public final class PlayEdgesTest extends BookTest {
             }
             is(x.overs(0, 0, 0, 1), 6);
         });
-        test("rule 8: behind the ENTRY that WON", () -> {
+        test("promise 8, ball; rule 8: behind the ENTRY that WON", () -> {
             BallBook x = begun(1);
             balls(x, CLOSE);
             turnOf(x, 0, 1);
             refusedBy(x, x.ball(0, 0), 8);
             refusedBy(x, x.ball(0, CLOSE), 8);
         });
-        test("rule 9: behind the sixth that counts, each that counts, WIDE and FOUL", () -> {
+        test("promise 8, ball; rule 9: behind the sixth that counts, each that counts, WIDE and FOUL", () -> {
             BallBook x = begun(2);
             balls(x, 0, 0, 0, 0, 0, 0);
             for (int entry : new int[] {0, 6, WIDE, FOUL, OUT, RUN_OUT, BYE + 1}) {
@@ -561,19 +561,19 @@ public final class PlayEdgesTest extends BookTest {
             }
             is(x.overs(0, 0, 0, 1), 6);
         });
-        test("rule 9: DEAD, NOTE, RAIN and CLOSE can be behind the sixth", () -> {
+        test("promise 8, ball; rule 9: DEAD, NOTE, RAIN and CLOSE can be behind the sixth", () -> {
             BallBook x = begun(5);
             balls(x, 0, 0, 0, 0, 0, 0, DEAD, NOTE, RAIN + 1, CLOSE);
             cannot(x, 0, N, N, N);
             is(x.overs(0, 0, 0, 4), 6);
         });
-        test("rule 9: each can be behind the fifth", () -> {
+        test("promise 8, ball; rule 9: each can be behind the fifth", () -> {
             for (int entry : new int[] {0, WIDE, FOUL, OUT, RUN_OUT, BYE + 1}) {
                 BallBook x = begun(2);
                 balls(x, 0, 0, 0, 0, 0, entry);
             }
         });
-        test("rule 9: one put in ahead makes the last one the seventh", () -> {
+        test("promise 8, ball; rule 9: one put in ahead makes the last one the seventh", () -> {
             BallBook x = begun(2);
             balls(x, 0, 0, 0, 0, 0, 4);
             x.put(0, 0, 0, 0, 1);
@@ -581,14 +581,14 @@ public final class PlayEdgesTest extends BookTest {
             scoreIs(x, 0, 0, 1);
             is(x.overs(0, 0, 0, 5), 1);
         });
-        test("rule 10: RAIN with two TURNS of each", () -> {
+        test("promise 8, ball; rule 10: RAIN with two TURNS of each", () -> {
             BallBook x = game(120, 2);
             turnOf(x, 0);
             refusedBy(x, x.ball(0, RAIN + 1), 10);
             refusedBy(x, x.ball(0, RAIN + 15), 10);
             scoreIs(x, 0, 5, 120);
         });
-        test("rule 10: as many ALLOWED overs as have been begun can be left, fewer can't", () -> {
+        test("promise 8, ball; rule 10: as many ALLOWED overs as have been begun can be left, fewer can't", () -> {
             BallBook x = begun(5);
             x.over(0, 1);
             refusedBy(x, x.ball(0, RAIN + 4), 10);
@@ -599,14 +599,14 @@ public final class PlayEdgesTest extends BookTest {
             scoreIs(x, 0, 6, 0);
             refusedBy(x, x.ball(0, RAIN + 1), 10);
         });
-        test("rule 10: a GAME of one OVER has none to take away", () -> {
+        test("promise 8, ball; rule 10: a GAME of one OVER has none to take away", () -> {
             BallBook x = begun(1);
             refusedBy(x, x.ball(0, RAIN + 1), 10);
         });
     }
 
     private static void playStops() {
-        test("terms 2: at an ENTRY that can't be PLAY stops; that one and all behind it count for nothing", () -> {
+        test("promise 18, now; terms 2: at an ENTRY that can't be PLAY stops; that one and all behind it count for nothing", () -> {
             BallBook x = begun(2);
             balls(x, 1, 2, 3);
             overOf(x, 1, 4, CLOSE);
@@ -624,7 +624,7 @@ public final class PlayEdgesTest extends BookTest {
             scoreIs(x, 1, 9, 0);
             scoreIs(x, 1, 10, 1);
         });
-        test("terms 2: the first one that can't be is told, not a later one", () -> {
+        test("promise 18, now; terms 2: the first one that can't be is told, not a later one", () -> {
             BallBook x = begun(3);
             balls(x, 1);
             overOf(x, 1, 1);
@@ -637,7 +637,7 @@ public final class PlayEdgesTest extends BookTest {
             x.bowls(0, 0, 0, 12);
             cannot(x, 4, 0, 0, N);
         });
-        test("terms 2: the last ENTRY of a full ROW", () -> {
+        test("promise 18, now; terms 2: the last ENTRY of a full ROW", () -> {
             BallBook x = begun(3);
             balls(x, times(40, NOTE));
             x.mend(0, 0, 0, 39, 255);
@@ -646,7 +646,7 @@ public final class PlayEdgesTest extends BookTest {
     }
 
     private static void rain() {
-        test("terms 2: a TURN ends (2) by RAIN that leaves as many OVERS as are whole", () -> {
+        test("promise 19, score; terms 2: a TURN ends (2) by RAIN that leaves as many OVERS as are whole", () -> {
             BallBook x = begun(5);
             balls(x, 0, 0, 0, 0, 0, 0);
             refusedBy(x, x.ball(0, RAIN + 5), 10);
@@ -657,7 +657,7 @@ public final class PlayEdgesTest extends BookTest {
             scoreIs(x, 0, 5, 1);
             nowIs(x, 4, 0);
         });
-        test("terms 2: RAIN that leaves the OVER at hand alone doesn't end it", () -> {
+        test("promise 19, score; terms 2: RAIN that leaves the OVER at hand alone doesn't end it", () -> {
             BallBook x = begun(5);
             balls(x, 0, 0, 0, 0, 0, RAIN + 4);
             scoreIs(x, 0, 6, 0);
@@ -665,7 +665,7 @@ public final class PlayEdgesTest extends BookTest {
             balls(x, 0);
             scoreIs(x, 0, 6, 2);
         });
-        test("terms 2: TURN 1 is ALLOWED what TURN 0 was at its end", () -> {
+        test("promise 19, score; terms 2: TURN 1 is ALLOWED what TURN 0 was at its end", () -> {
             BallBook x = begun(20);
             balls(x, RAIN + 15, RAIN + 3, CLOSE);
             scoreIs(x, 0, 5, 2);
@@ -674,7 +674,7 @@ public final class PlayEdgesTest extends BookTest {
             nowIs(x, 4, 12);
             scoreIs(x, 1, 8, 33);
         });
-        test("terms 2: with two TURNS of each every TURN is ALLOWED the GAME's OVERS", () -> {
+        test("promise 19, score; terms 2: with two TURNS of each every TURN is ALLOWED the GAME's OVERS", () -> {
             BallBook x = game(7, 2);
             for (int t = 0; t < 4; t++) {
                 turnOf(x, 0, CLOSE);
@@ -682,7 +682,7 @@ public final class PlayEdgesTest extends BookTest {
                 scoreIs(x, t, 8, 113);
             }
         });
-        test("terms 3: balls left are 6 times ALLOWED less 6 of each whole OVER, and those that count", () -> {
+        test("promise 19, score; terms 3: balls left are 6 times ALLOWED less 6 of each whole OVER, and those that count", () -> {
             BallBook x = begun(3);
             nowIs(x, 4, 18);
             balls(x, WIDE, 0, DEAD);
@@ -703,7 +703,7 @@ public final class PlayEdgesTest extends BookTest {
     }
 
     private static void means() {
-        test("terms 3: TABLE(6 * ALLOWED, 0) of 1, 2, 60, 119 and 120 OVERS, cut down", () -> {
+        test("promise 19, score; terms 3: TABLE(6 * ALLOWED, 0) of 1, 2, 60, 119 and 120 OVERS, cut down", () -> {
             // 6 * 1434 / 518.4 = 16.59.., 12 * 1428 / 518.4 = 33.05.., 360 * 1080 / 518.4 = 750,
             // 714 * 726 / 518.4 = 999.93.., 720 * 720 / 518.4 = 1000
             meansOfNew(1, 16);
@@ -712,32 +712,32 @@ public final class PlayEdgesTest extends BookTest {
             meansOfNew(119, 999);
             meansOfNew(120, 1000);
         });
-        test("terms 3: RAIN with nobody out and with no ball gone", () -> {
+        test("promise 19, score; terms 3: RAIN with nobody out and with no ball gone", () -> {
             BallBook x = begun(2);
             balls(x, RAIN + 1);
             // 33 - (33 - 16)
             scoreIs(x, 0, 8, 16);
         });
-        test("terms 3: RAIN with nine out", () -> {
+        test("promise 19, score; terms 3: RAIN with nine out", () -> {
             BallBook x = begun(120);
             balls(x, times(6, OUT));
             overOf(x, 1, OUT, OUT, OUT, RAIN + 15);
             // 19 / 100 of 711 * 729 / 518.4 = 189.97.. and of 621 * 819 / 518.4 = 186.40..
             scoreIs(x, 0, 8, 1000 - (189 - 186));
         });
-        test("terms 3: each RAIN by the outs and the balls then", () -> {
+        test("promise 19, score; terms 3: each RAIN by the outs and the balls then", () -> {
             BallBook x = begun(20);
             balls(x, 0, RAIN + 5, OUT, RAIN + 5, OUT, RAIN + 5);
             // TABLE(119, 0) 303, (89, 0) 231; (88, 1) 227, (58, 1) 153; (57, 2) 145, (27, 2) 70
             scoreIs(x, 0, 8, 305 - (303 - 231) - (227 - 153) - (145 - 70));
         });
-        test("terms 3: TABLE of no balls is 0", () -> {
+        test("promise 19, score; terms 3: TABLE of no balls is 0", () -> {
             BallBook x = begun(2);
             balls(x, 0, 0, 0, 0, 0, 0, RAIN + 1);
             // TABLE(6, 0) 16 less TABLE(0, 0) 0
             scoreIs(x, 0, 8, 33 - 16);
         });
-        test("terms 3: THE MEANS can come down to 0", () -> {
+        test("promise 19, score; terms 3: THE MEANS can come down to 0", () -> {
             BallBook x = begun(119);
             balls(x, 0, 0, 0, 0, 0, 0);
             rainOf(x, 118);
@@ -749,20 +749,20 @@ public final class PlayEdgesTest extends BookTest {
     }
 
     private static void target() {
-        test("terms 3, THE TARGET: n is m: one more than the score", () -> {
+        test("promise 18, now; terms 3, THE TARGET: n is m: one more than the score", () -> {
             BallBook x = begun(10);
             balls(x, 6, 6, CLOSE);
             x.turn(0);
             nowIs(x, 6, 13);
         });
-        test("terms 3, THE TARGET: of no runs it is 1", () -> {
+        test("promise 18, now; terms 3, THE TARGET: of no runs it is 1", () -> {
             BallBook x = begun(10);
             balls(x, CLOSE);
             x.turn(0);
             nowIs(x, 6, 1);
             nowIs(x, 7, 1);
         });
-        test("terms 3, THE TARGET: n below m: a * n / m, cut down, and 1", () -> {
+        test("promise 18, now; terms 3, THE TARGET: n below m: a * n / m, cut down, and 1", () -> {
             BallBook x = begun(10);
             balls(x, 5, CLOSE);
             turnOf(x, 0, RAIN + 5);
@@ -771,7 +771,7 @@ public final class PlayEdgesTest extends BookTest {
             scoreIs(x, 1, 8, 81);
             nowIs(x, 6, 3);
         });
-        test("terms 3, THE TARGET: n is m by RAIN, and n above m by 1", () -> {
+        test("promise 18, now; terms 3, THE TARGET: n is m by RAIN, and n above m by 1", () -> {
             BallBook x = begun(10);
             balls(x, 6, 0, 0, 0, 0, 0, RAIN + 2, CLOSE);
             // TABLE(54, 0) 144, (42, 0) 113: both are 128
@@ -785,7 +785,7 @@ public final class PlayEdgesTest extends BookTest {
             scoreIs(x, 1, 8, 65);
             nowIs(x, 6, 7);
         });
-        test("terms 3, THE TARGET: n above m by 4 makes no run more, by 5 one", () -> {
+        test("promise 18, now; terms 3, THE TARGET: n above m by 4 makes no run more, by 5 one", () -> {
             BallBook x = begun(20);
             balls(x, 6, 0, 0, 0, 0, 0);
             dots(x, 1, 3);
@@ -801,7 +801,7 @@ public final class PlayEdgesTest extends BookTest {
             scoreIs(x, 1, 8, 159);
             nowIs(x, 6, 8);
         });
-        test("terms 3, THE TARGET: n above m by 500", () -> {
+        test("promise 18, now; terms 3, THE TARGET: n above m by 500", () -> {
             BallBook x = begun(120);
             for (int o = 1; o < 60; o++) {
                 overOf(x, o % 10);
@@ -814,7 +814,7 @@ public final class PlayEdgesTest extends BookTest {
             scoreIs(x, 1, 8, 750);
             nowIs(x, 6, 6 + 100 + 1);
         });
-        test("terms 3, THE TARGET: m is 0", () -> {
+        test("promise 18, now; terms 3, THE TARGET: m is 0", () -> {
             BallBook x = begun(119);
             balls(x, 6, 6, 0, 0, 0, 0);
             rainOf(x, 118);
@@ -824,7 +824,7 @@ public final class PlayEdgesTest extends BookTest {
             scoreIs(x, 1, 8, 16);
             nowIs(x, 6, 16);
         });
-        test("terms 3, THE TARGET: RAIN in TURN 1 sets it anew", () -> {
+        test("promise 18, now; terms 3, THE TARGET: RAIN in TURN 1 sets it anew", () -> {
             BallBook x = begun(10);
             balls(x, 6, 6, CLOSE);
             turnOf(x, 0);
@@ -834,7 +834,7 @@ public final class PlayEdgesTest extends BookTest {
             scoreIs(x, 1, 8, 16);
             nowIs(x, 6, 2);
         });
-        test("terms 3, THE TARGET: there is one in the last TURN alone", () -> {
+        test("promise 18, now; terms 3, THE TARGET: there is one in the last TURN alone", () -> {
             BallBook x = game(1, 2);
             for (int t = 0; t < 3; t++) {
                 turnOf(x, 0, CLOSE);
@@ -858,23 +858,23 @@ public final class PlayEdgesTest extends BookTest {
     }
 
     private static void winners() {
-        test("terms 3: one less than THE TARGET is not WON, the same is, more is", () -> {
+        test("promise 18, now; terms 3: one less than THE TARGET is not WON, the same is, more is", () -> {
             nowIs(chase(3), 10, 0);
             nowIs(chase(4), 10, 2);
             nowIs(chase(6), 10, 2);
             nowIs(chase(3, WIDE), 10, 2);
             nowIs(chase(FOUL + 3), 5, 4);
         });
-        test("terms 3: when the last TURN has ended: a tie, if the score is one less", () -> {
+        test("promise 18, now; terms 3: when the last TURN has ended: a tie, if the score is one less", () -> {
             nowIs(chase(3, CLOSE), 10, 3);
             nowIs(chase(3, 0, 0, 0, 0, 0), 10, 3);
         });
-        test("terms 3: when the last TURN has ended: two less is WON by 0", () -> {
+        test("promise 18, now; terms 3: when the last TURN has ended: two less is WON by 0", () -> {
             nowIs(chase(2, CLOSE), 10, 1);
             nowIs(chase(CLOSE), 10, 1);
             nowIs(chase(2, 0, 0, 0, 0, 0), 10, 1);
         });
-        test("terms 3: a tie by a missing OVER", () -> {
+        test("promise 18, now; terms 3: a tie by a missing OVER", () -> {
             BallBook x = begun(1);
             balls(x, CLOSE);
             turnOf(x, 0);
@@ -883,7 +883,7 @@ public final class PlayEdgesTest extends BookTest {
             nowIs(x, 10, 3);
             scoreIs(x, 1, 6, 2);
         });
-        test("terms 3: WON by RAIN at that", () -> {
+        test("promise 18, now; terms 3: WON by RAIN at that", () -> {
             BallBook x = begun(10);
             balls(x, 6, 6, CLOSE);
             turnOf(x, 0, 2);
@@ -896,7 +896,7 @@ public final class PlayEdgesTest extends BookTest {
             nowIs(x, 7, 0);
             refusedBy(x, x.ball(0, 0), 8);
         });
-        test("terms 3: RAIN that leaves one run too few doesn't win", () -> {
+        test("promise 18, now; terms 3: RAIN that leaves one run too few doesn't win", () -> {
             BallBook x = begun(10);
             balls(x, 6, 6, CLOSE);
             turnOf(x, 0, 1, RAIN + 9);
@@ -904,7 +904,7 @@ public final class PlayEdgesTest extends BookTest {
             nowIs(x, 10, 0);
             nowIs(x, 7, 1);
         });
-        test("terms 2: RAIN that ends TURN 1 and wins it is 4, not 2", () -> {
+        test("promise 18, now; terms 2: RAIN that ends TURN 1 and wins it is 4, not 2", () -> {
             BallBook x = begun(10);
             balls(x, 6, 6, 6, CLOSE);
             turnOf(x, 0, 2, 0, 0, 0, 0, 0, RAIN + 9);
@@ -913,7 +913,7 @@ public final class PlayEdgesTest extends BookTest {
             nowIs(x, 5, 4);
             nowIs(x, 10, 2);
         });
-        test("terms 2: RAIN that ends TURN 1 and doesn't win it is 2", () -> {
+        test("promise 18, now; terms 2: RAIN that ends TURN 1 and doesn't win it is 2", () -> {
             BallBook x = begun(10);
             balls(x, 6, 6, 6, CLOSE);
             turnOf(x, 0, 1, 0, 0, 0, 0, 0, RAIN + 9);
@@ -933,12 +933,12 @@ public final class PlayEdgesTest extends BookTest {
     }
 
     private static void winnersOfTwo() {
-        test("terms 3: with two TURNS of each, a target below 1 behind TURN 2 is WON by 1", () -> {
+        test("promise 18, now; terms 3: with two TURNS of each, a target below 1 behind TURN 2 is WON by 1", () -> {
             nowIs(three(1, 4, 2), 10, 2);
             nowIs(three(0, 6, 0), 10, 2);
             nowIs(three(1, 4, 2), 5, 3);
         });
-        test("terms 3: with two TURNS of each, a target of 1 must be had", () -> {
+        test("promise 18, now; terms 3: with two TURNS of each, a target of 1 must be had", () -> {
             BallBook x = three(1, 4, 3);
             nowIs(x, 10, 0);
             is(x.turn(0), true);
@@ -947,7 +947,7 @@ public final class PlayEdgesTest extends BookTest {
             overOf(x, 0, 1);
             nowIs(x, 10, 2);
         });
-        test("terms 3: a target below 1 is no win while TURN 2 has not ended", () -> {
+        test("promise 18, now; terms 3: a target below 1 is no win while TURN 2 has not ended", () -> {
             BallBook x = game(1, 2);
             turnOf(x, 0, CLOSE);
             turnOf(x, 0, 6, CLOSE);
@@ -959,7 +959,7 @@ public final class PlayEdgesTest extends BookTest {
             nowIs(x, 10, 2);
             nowIs(x, 5, 2);
         });
-        test("terms 3: TURN 3: one less at its end is a tie, two less is WON by 0", () -> {
+        test("promise 18, now; terms 3: TURN 3: one less at its end is a tie, two less is WON by 0", () -> {
             BallBook x = three(3, 2, 1);
             turnOf(x, 0, 2, CLOSE);
             nowIs(x, 6, 3);
@@ -970,7 +970,7 @@ public final class PlayEdgesTest extends BookTest {
             nowIs(x, 10, 2);
             cannot(x, 8, 3, 0, 1);
         });
-        test("terms 3: TURN 1 of two has no target and is not WON", () -> {
+        test("promise 18, now; terms 3: TURN 1 of two has no target and is not WON", () -> {
             BallBook x = game(1, 2);
             turnOf(x, 0, CLOSE);
             turnOf(x, 0, 6, 6);
