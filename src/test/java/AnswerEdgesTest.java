@@ -491,6 +491,20 @@ public final class AnswerEdgesTest extends BookTest {
             recordIs(x, 2, 0, 0, 0, 0, N, 0);
             recordIs(x, 3, 0, N, N, 0, 0, 0);
         });
+        test("promise 24, record: where nobody has runs it is the PLAYER on SEAT 0", () -> {
+            BallBook x = game(2, 1);
+            x.seat(0, 0, 0, 7);
+            x.turn(0);
+            recordIs(x, 0, 0, 0, 0, 0, 7, 0);
+        });
+        test("promise 24, record: a PLAYER more, asked ahead of it and behind it, hides no run", () -> {
+            BallBook x = begun(2, 4);
+            recordIs(x, 0, 4, 0, 0, 0, 0, 0);
+            balls(x, 2);
+            is(x.player(0), 11);
+            recordIs(x, 0, 6, 0, 0, 0, 0, 0);
+            recordIs(x, 3, 6, N, N, 0, 0, 0);
+        });
         test("promise 24, record: 1 is of those with an OVER", () -> {
             BallBook x = game(2, 1);
             x.turn(0);

@@ -814,6 +814,20 @@ public final class PlayEdgesTest extends BookTest {
             scoreIs(x, 1, 8, 750);
             nowIs(x, 6, 6 + 100 + 1);
         });
+        test("promise 18, now; terms 3, THE TARGET: n above m by 204 makes 40, cut down", () -> {
+            BallBook x = begun(120);
+            for (int o = 1; o < 30; o++) {
+                overOf(x, o % 10);
+            }
+            balls(x, 6, 0, 0, 0, 0, 0);
+            rainOf(x, 49);
+            balls(x, CLOSE);
+            x.turn(0);
+            // TABLE(540, 0) 937, (246, 0) 566: m is 1000 - 371; n is TABLE(426, 0) 833; 40800 / 1000
+            scoreIs(x, 0, 8, 629);
+            scoreIs(x, 1, 8, 833);
+            nowIs(x, 6, 6 + 40 + 1);
+        });
         test("promise 18, now; terms 3, THE TARGET: m is 0", () -> {
             BallBook x = begun(119);
             balls(x, 6, 6, 0, 0, 0, 0);
