@@ -151,7 +151,7 @@ public final class BallBook {
         if (rule != 0) {
             return refused(rule);
         }
-        changes.push(game, TURN_CAME, page.turnCount(), NONE);
+        changes.push(game, TURN_CAME, page.turnCount(), NONE, null);
         page.addTurn(new Turn());
         return done();
     }
@@ -173,7 +173,7 @@ public final class BallBook {
         if (rule != 0) {
             return refused(rule);
         }
-        changes.push(game, OVER_CAME, page.turnCount() - 1, latest.overCount());
+        changes.push(game, OVER_CAME, page.turnCount() - 1, latest.overCount(), null);
         latest.addOver(new Over(bowler, 0));
         return done();
     }
@@ -496,8 +496,7 @@ public final class BallBook {
     }
 
     private void keep(int game, int turn, int over, Over row) {
-        Change change = changes.push(game, OVER_CHANGED, turn, over);
-        change.was.copy(row);
+        changes.push(game, OVER_CHANGED, turn, over, row);
         forgetPlay();
     }
 
@@ -920,15 +919,20 @@ public final class BallBook {
             }
         }
 
-        Change push(int game, int kind, int turn, int over) {
-            Change change = ring[next];
+        void push(int game, int kind, int turn, int over, Over row) {
+            Change change = changeAt(next);
+            if (change == null) {
+                return;
+            }
             change.game = game;
             change.kind = kind;
             change.turn = turn;
             change.over = over;
+            if (row != null) {
+                change.was.copy(row);
+            }
             next = next + 1 < MOST_CHANGES ? next + 1 : 0;
             count = Math.min(count + 1, MOST_CHANGES);
-            return change;
         }
 
         Change pop() {
@@ -937,7 +941,11 @@ public final class BallBook {
             }
             next = next > 0 ? next - 1 : MOST_CHANGES - 1;
             count--;
-            return ring[next];
+            return changeAt(next);
+        }
+
+        private Change changeAt(int i) {
+            return i >= 0 && i < ring.length ? ring[i] : null;
         }
     }
 

@@ -2,6 +2,7 @@ import java.io.IOException;
 import java.nio.file.Files;
 import java.nio.file.Path;
 import java.util.List;
+import java.util.regex.Matcher;
 import java.util.regex.Pattern;
 
 /** What can be seen of LANGUAGE.md in the source's own lines; run from the checkout's root. */
@@ -9,7 +10,11 @@ public final class LanguageTest {
     private static final String[] NOT_ALLOWED = {
         "->", "::", "\\btry\\b", "\\bcatch\\b", "\\bfinally\\b", "\\bsynchronized\\b", "\\bassert\\b", "^package\\b",
         "\\bstatic \\{", "\\w+Exact\\(", "\\bhashCode\\b", "\\btoString\\b", "\\bSystem\\.(?!arraycopy)", "\\bvar\\b",
-        "\\bprotected\\b", "\\bObject\\b", "\\bdouble\\b", "\\bfloat\\b", "\"\\s*\\+", "\\+\\s*\""};
+        "\\bprotected\\b", "\\bObject\\b", "\\bdouble\\b", "\\bfloat\\b", "\\bMath\\.(?!max\\(|min\\()", "\"\\s*\\+", "\\+\\s*\""};
+    private static final Pattern TYPE = Pattern.compile("\\b[A-Z]\\w*[a-z]\\w*");
+    private static final List<String> TYPES = List.of(
+        "BallBook", "Grid", "Bytes", "Over", "Turn", "Game", "Change", "Changes", "Tally", "Play", "Records", "Reader",
+        "ArrayList", "NoSuchElementException", "Math");
     private static int wrong = 0;
 
     public static void main(String[] args) throws IOException {
@@ -20,6 +25,10 @@ public final class LanguageTest {
             String code = line.replaceAll("//.*", "").replaceAll("^\\s*/\\*\\*.*\\*/", "");
             for (String pattern : NOT_ALLOWED) {
                 must(!Pattern.compile(pattern).matcher(code).find(), k, "has " + pattern);
+            }
+            Matcher types = TYPE.matcher(code.replaceAll("\"[^\"]*\"", ""));
+            while (types.find()) {
+                must(TYPES.contains(types.group()), k, "uses " + types.group());
             }
             must(!code.startsWith("import ") || code.matches("import java\\.util\\.(ArrayList|NoSuchElementException);"), k, "imports something else");
             must(!code.contains("throw ") || code.contains("throw new NoSuchElementException(\""), k, "throws something else");

@@ -863,7 +863,7 @@ public final class PlayEdgesTest extends BookTest {
         });
     }
 
-    /** Turn 0 makes three runs, turn 1 the entries and CLOSE if it can. */
+    /** Turn 0 makes three runs, turn 1 has these entries. */
     private static BallBook chase(int... entries) {
         BallBook x = begun(1);
         balls(x, 3, CLOSE);
@@ -887,6 +887,26 @@ public final class PlayEdgesTest extends BookTest {
             nowIs(chase(2, CLOSE), 10, 1);
             nowIs(chase(CLOSE), 10, 1);
             nowIs(chase(2, 0, 0, 0, 0, 0), 10, 1);
+        });
+        test("promise 18, now; terms 2: a last TURN behind which 0 has WON has ended by 1, 2, 3 as any, not by 4", () -> {
+            nowIs(chase(2, CLOSE), 5, 3);
+            nowIs(chase(2, 0, 0, 0, 0, 0), 5, 2);
+            BallBook x = begun(2);
+            balls(x, 3, CLOSE);
+            turnOf(x, 0, times(6, OUT));
+            overOf(x, 1, times(4, OUT));
+            nowIs(x, 5, 1);
+            nowIs(x, 10, 1);
+        });
+        test("promise 18, now; terms 2: a last TURN behind a tie has ended by 1, 2, 3 as any, not by 4", () -> {
+            nowIs(chase(3, CLOSE), 5, 3);
+            nowIs(chase(3, 0, 0, 0, 0, 0), 5, 2);
+            BallBook x = begun(2);
+            balls(x, CLOSE);
+            turnOf(x, 0, times(6, OUT));
+            overOf(x, 1, times(4, OUT));
+            nowIs(x, 5, 1);
+            nowIs(x, 10, 3);
         });
         test("promise 18, now; terms 3: a tie by a missing OVER", () -> {
             BallBook x = begun(1);
